@@ -561,7 +561,7 @@ public final class BedFrontier {
             return notes;
         }
 
-        boolean passes(int d, int s, int his) {
+        boolean passesBarred(int d, int s, int his) {
             return kinds[kindOf[d]].passes(ownHour(s, his), war);
         }
 
@@ -570,7 +570,7 @@ public final class BedFrontier {
         }
 
         boolean lets(int d, int s, int his) {
-            return !isBarred(s, his) || passes(d, s, his);
+            return !isBarred(s, his) || passesBarred(d, s, his);
         }
 
         int owed(int d, int s, int his) {
@@ -1019,7 +1019,7 @@ public final class BedFrontier {
         }
 
         boolean isOpen(int d, int s, int pair) {
-            return (pair >> s & 1) == 0 || home.passes(d, s, home.hour);
+            return (pair >> s & 1) == 0 || home.passesBarred(d, s, home.hour);
         }
 
         int kindsThatFit(int d) {
@@ -1094,7 +1094,7 @@ public final class BedFrontier {
         }
 
         int tenthsShut(int d, int s, int c) {
-            if (home.passes(d, s, home.hour)) {
+            if (home.passesBarred(d, s, home.hour)) {
                 return 0;
             }
             return home.isBarred(s, home.hour) ? TENTHS : c;

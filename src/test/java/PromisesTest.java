@@ -826,9 +826,13 @@ public final class PromisesTest {
         x.type(65);
         x.child(4);
         x.forget();
+        x.note(3, 1, 7, 1, 9);
         x.rate(0, 7);
         x.bar(0, 0);
         x.undo();
+        x.undo();
+        x.waits(9);
+        x.does(4, 0);
         x.house(0);
         x.doing(1, 1);
         eq("31 goes on", x.from(1), 1);

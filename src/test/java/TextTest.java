@@ -47,6 +47,9 @@ public final class TextTest {
         {"house house 1;", -16},
         {"house 1;rate rate;", -23},
         {"house 1;warwar;", -18},
+        {"house 1;warz;", -18},
+        {"house 1;awar;", -18},
+        {"house 1;z", -18},
         // stops
         {"house;", -15},
         {"house 1;;", -18},
@@ -99,6 +102,7 @@ public final class TextTest {
             reading((String) row[0], (Integer) row[1]);
         }
         longestText();
+        olderText();
         everyPartOfAText();
         CHECK.finish();
     }
@@ -127,10 +131,27 @@ public final class TextTest {
         }
         text.append("  ");
         reading(text.toString(), 36);
+        String most = text.substring(0, 144);
+        reading(most + "  bar ", -160);
+        reading(most + "   war", -160);
+        reading(most + " bar 1", -160);
+        reading(most + "bar 12", -158);
         BedFrontier x = new BedFrontier();
-        Check.typeAll(x, text.substring(0, 146) + "bar ");
+        Check.typeAll(x, most + "   war");
         CHECK.due("the 151st", x.type(';'), BedFrontier.FULL);
-        CHECK.due("cut at 150", x.read(), -154);
+        CHECK.due("it ends at 150", x.read(), -160);
+    }
+
+    /** Bytes of an older text lie behind the one that is read, and must not be seen. */
+    private static void olderText() {
+        String[][] pairs = {{"house 12345;", "house 1"}, {"house 1;warwar;", "house 1;war"},
+            {"house 1;bar 0 11;", "house 1;bar 0 1"}, {"house 5;", "house"}};
+        for (String[] pair : pairs) {
+            BedFrontier x = new BedFrontier();
+            Check.typeAll(x, pair[0]);
+            Check.typeAll(x, pair[1]);
+            CHECK.due("'" + pair[1] + "' over '" + pair[0] + "'", x.read(), -10 - pair[1].length());
+        }
     }
 
     /** Each text that begins a good one ends too early, but where an item has just ended. */
