@@ -19,6 +19,10 @@ final class Check {
         }
     }
 
+    int asked() {
+        return asked;
+    }
+
     boolean isClean() {
         return wrong == 0;
     }
