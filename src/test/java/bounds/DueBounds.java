@@ -136,6 +136,20 @@ final class DueBounds extends Bounds {
             x.doing(PLAIN, 20);
             eq("each once", x.least(NONE), 5 * i);
         }
+        x.house(1);
+        x.doing(PLAIN, 20);
+        eq("one behind six", x.least(NONE), 5);
+        eq("its place", x.least(0), 230);
+        x.bar(HERS, ALL);
+        x.bar(HIS, ALL - bit(3));
+        eq("one behind six, long ahead of the day's end", x.least(NONE), 5);
+        // 4 on his side for all but kiss and cat, if snoring and lamp are done ahead of 22
+        BedFrontier y = kinds();
+        eq("one of each kind", y.least(NONE), 16);
+        int[] places = {180, 190, 220, 200, 230, 210};
+        for (int i = 0; i < 6; i++) {
+            eq("the place of " + i, y.least(i), places[i]);
+        }
     }
 
     @Holds(promise = 17, says = "are done today, from the HOUR as it is to 23")
@@ -360,6 +374,12 @@ final class DueBounds extends Bounds {
         eq("hers alone from 5 on", x.where(0), 5);
         x.rate(HERS, 2);
         eq("his alone from 0 on", x.where(0), 0);
+        x.rate(HIS, 9);
+        x.rate(HERS, 8);
+        eq("hers by one", x.where(0), 5);
+        x.rate(HIS, 8);
+        x.rate(HERS, 9);
+        eq("his by one", x.where(0), 0);
         x.rate(HIS, 0);
         x.rate(HERS, 0);
         eq("nothing on both", x.where(0), 0);
@@ -386,10 +406,13 @@ final class DueBounds extends Bounds {
         x.rate(HIS, 1);
         x.rate(HERS, 2);
         eq("his by one", x.bars(0), 1 | 4);
-        // hers for nothing: only both barring, and so nowhere, can he better
+        // for nothing on one side: of all pairs only both barring, and so nowhere, can be bettered
         x.rate(HERS, 0);
         eq("hers for nothing", x.bars(0), 1 | 2 | 4);
         x.rate(HIS, 0);
+        x.rate(HERS, 1);
+        eq("his for nothing", x.bars(0), 1 | 2 | 4);
+        x.rate(HERS, 0);
         eq("nothing to be had", x.bars(0), 15);
     }
 

@@ -196,6 +196,15 @@ final class HoursBounds extends Bounds {
         now(x, HIS, 2, 0, 0);
         no(x, () -> x.undo());
         now(x, HIS, 2, 0, 0);
+        // each of the eight is kept whole when older ones fall out
+        for (int i = 0; i < 12; i++) {
+            x.war(1 - i % 2);
+        }
+        for (int i = 11; i >= 4; i--) {
+            x.undo();
+            now(x, HIS, 2, 0, i % 2);
+        }
+        no(x, () -> x.undo());
     }
 
     @Holds(promise = 12, says = "behind a DOING that comes none may be")

@@ -119,6 +119,23 @@ final class PaidBounds extends Bounds {
         taken(x, 0, () -> x.look(3, HIS));
     }
 
+    @Holds(promise = 25, says = "LOOK on a SIDE: the HOUR (its clock), no WAR")
+    void lookByNoWarAndForNothing() {
+        BedFrontier x = one(QUARREL, 0);
+        x.rate(HIS, 2);
+        x.war(1);
+        x.note(0, HIS, 0, 1, 4);
+        eq("quarrel, snoring and lamp", x.is(0), 4 | 8 | 32);
+        // in war all three would be alike at night, and hour 6 be the one to look
+        taken(x, 0, () -> x.look(0, HIS));
+        // where nothing is due by day all six are alike there, at night four
+        BedFrontier y = one(PLAIN, 4);
+        y.rate(HIS, 0);
+        y.rate(HERS, 0);
+        taken(y, 0, () -> y.look(0, HIS));
+        taken(y, 0, () -> y.look(0, HERS));
+    }
+
     @Holds(promise = 25, says = "LOOK. NONE. BAD.")
     void lookTooSmallTooLarge() {
         BedFrontier none = new BedFrontier();

@@ -82,6 +82,9 @@ final class TextBounds extends Bounds {
         fault(wars + "war; _", 149);
         reads("house 1;", 1);
         fault("house 1", 7);
+        fault("house 1;;", 8);
+        fault("house 1;war;;war;", 12);
+        fault("house 1 war;", 8);
     }
 
     @Holds(promise = 8, says = "house TOLL (once, first of all)")
