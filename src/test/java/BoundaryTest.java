@@ -31,13 +31,19 @@ public final class BoundaryTest {
 
     public static void main(String[] args) throws IOException, ReflectiveOperationException {
         Path path = Path.of(System.getProperty("document", "../shared/DOC.md"));
-        BoundaryTest test = new BoundaryTest(Files.readString(path, StandardCharsets.UTF_8));
+        boolean there = Files.isRegularFile(path);
+        if (!there) {
+            System.out.println("no document at " + path + ": its sentences are not looked up");
+        }
+        BoundaryTest test = new BoundaryTest(there ? Files.readString(path, StandardCharsets.UTF_8) : "");
         Bounds[] all = {new HouseBounds(), new TextBounds(), new HoursBounds(), new KindBounds(),
             new DueBounds(), new PaidBounds(), new KeptBounds()};
         for (Bounds bounds : all) {
             test.runAll(bounds);
         }
-        test.nothingLeftOut();
+        if (there) {
+            test.nothingLeftOut();
+        }
         test.check.finish();
     }
 
@@ -54,7 +60,9 @@ public final class BoundaryTest {
 
     private void run(Bounds bounds, Method m, Holds holds) throws ReflectiveOperationException {
         String name = "promise " + holds.promise() + ", '" + holds.says() + "', " + m.getName();
-        mark(name, holds);
+        if (!document.isEmpty()) {
+            mark(name, holds);
+        }
         bounds.begin(check, name);
         int before = check.asked();
         try {
