@@ -66,6 +66,9 @@ public final class ModelTest {
         for (int i = 0; i < args.length; i++) {
             args[i] = argument(m.getName(), i);
         }
+        if (m.getName().equals("note") && random.nextBoolean()) {
+            args[4] = model.noteOf(random.nextInt(6), args);
+        }
         boolean endsHouse = m.getName().equals("house") || m.getName().equals("read");
         if (endsHouse && random.nextInt(4) > 0) {
             return;

@@ -501,6 +501,16 @@ final class Model {
         return now.notes.size();
     }
 
+    /** What a note of these would tell, were its doing of this kind: for runs with notes that fit. */
+    int noteOf(int kind, Object[] note) {
+        int d = (Integer) note[0];
+        int s = (Integer) note[1];
+        if (noDoing(d) || out(s, 0, 1)) {
+            return 0;
+        }
+        return price(kind, now.doings.get(d)[1], s, now.rate[s], (Integer) note[2], (Integer) note[3]);
+    }
+
     int forget() {
         int had = now.notes.size();
         now.notes.clear();
